@@ -37,7 +37,7 @@ public final class CoachWaits {
     private final Stand ahead = new Stand();
     private final Stand probe = new Stand();
     private final Going going = new Going(told);
-    private final Rings ringed = new Rings(told, going);
+    private final Rings ringed = new Rings(told, going, now);
     private final Branches branches = new Branches(told, going);
     private final Past past = new Past();
     private final Tray[] trays = new Tray[TRAYS];
@@ -277,7 +277,6 @@ public final class CoachWaits {
         if (what < 0 || what > 1) {
             return NO_SUCH;
         }
-        ringed.reckon(now.mudNow);
         int ring = ringed.slowestWithout(0);
         if (ring == NONE) {
             return NONE;
@@ -288,7 +287,6 @@ public final class CoachWaits {
     }
 
     public int slow() {
-        ringed.reckon(now.mudNow);
         return ringed.slowCoaches();
     }
 
@@ -297,7 +295,6 @@ public final class CoachWaits {
     }
 
     public int period() {
-        ringed.reckon(now.mudNow);
         return ringed.leastPeriod();
     }
 
@@ -308,7 +305,6 @@ public final class CoachWaits {
         if (p < 1 || p > FARTHEST) {
             return BAD_NUMBER;
         }
-        ringed.reckon(now.mudNow);
         return ringed.keepingHour(c, p);
     }
 
@@ -316,7 +312,6 @@ public final class CoachWaits {
         if (!told.hasWait(w)) {
             return NO_SUCH;
         }
-        ringed.reckon(now.mudNow);
         if (!ringed.isInRing(w)) {
             return NONE;
         }
@@ -325,7 +320,6 @@ public final class CoachWaits {
     }
 
     public int leave() {
-        ringed.reckon(now.mudNow);
         return ringed.bestOut();
     }
 
@@ -336,7 +330,6 @@ public final class CoachWaits {
         if (p < 1 || p > FARTHEST) {
             return BAD_NUMBER;
         }
-        ringed.reckon(now.mudNow);
         int out = ringed.fewestOut(p);
         return what == 0 ? Integer.bitCount(out) : out;
     }
@@ -696,7 +689,7 @@ public final class CoachWaits {
         }
         int best = 0;
         int least = MUDS + 1;
-        for (int c = 0; c < told.coaches; c++) {
+        for (int c = 0; c < told.coaches && c < COACHES; c++) {
             int most = mostAlike(seen, c);
             if (most < least) {
                 least = most;
@@ -1646,30 +1639,26 @@ public final class CoachWaits {
         }
     }
 
-    /** RINGS of WAITS, each as bits, and what their PACES tell. */
+    /** RINGS of WAITS, each as bits, and what their PACES tell by the MUD that there is now. */
     private static final class Rings {
         private static final int MOST = 1 << WAITS;
 
         private final Road road;
         private final Going going;
+        private final Stand now;
         private final int[] rings = new int[MOST];
         private final int[] over = new int[MOST];
         private final int[] hours = new int[COACHES];
         private int found;
-        private int mudNow;
 
-        Rings(Road road, Going going) {
+        Rings(Road road, Going going, Stand now) {
             this.road = road;
             this.going = going;
+            this.now = now;
         }
 
         int size() {
             return found;
-        }
-
-        /** TIMES are those of this MUD from now on. */
-        void reckon(int mud) {
-            mudNow = mud;
         }
 
         /** Each RING is found once: from the least of its COACHES on. */
@@ -1710,7 +1699,7 @@ public final class CoachWaits {
             int sum = 0;
             for (int w = 0; w < road.waits; w++) {
                 if ((waits >> w & 1) != 0) {
-                    sum += going.timeOf(w, mudNow);
+                    sum += going.timeOf(w, now.mudNow);
                 }
             }
             return sum;
@@ -1791,7 +1780,7 @@ public final class CoachWaits {
                 int whom = road.fromOf(w);
                 int who = road.toOf(w);
                 if (whom >= 0 && whom < COACHES && who >= 0 && who < COACHES) {
-                    int comes = hours[whom] + going.timeOf(w, mudNow) - road.lagOf(w) * p;
+                    int comes = hours[whom] + going.timeOf(w, now.mudNow) - road.lagOf(w) * p;
                     changed |= comes > hours[who];
                     hours[who] = Math.max(hours[who], comes);
                 }
@@ -1903,6 +1892,9 @@ public final class CoachWaits {
 
         /** The next depth is as this one behind a ROUND: the WAITS that made somebody LATE. */
         private int stepOn(int level, int out) {
+            if (level < 0 || level >= DEEPEST) {
+                return 0;
+            }
             levels[level + 1].copy(levels[level]);
             going.turn(levels[level + 1], out);
             return going.causeBits();

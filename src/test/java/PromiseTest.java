@@ -139,6 +139,14 @@ public final class PromiseTest {
         x.feed(-1, -1, -1, -1, -1);
         due("3 only the first bytes", x.road(20), 1);
         due("3 the rest of the tape goes too", x.count(8), 0);
+        StringBuilder law = new StringBuilder("1");
+        for (int i = 0; i < 300; i++) {
+            law.append("+1");
+        }
+        for (int i = 0; i < 8; i++) {
+            due("3 long laws, again and again", tell(x, R + C + "wait 0 0 takes 1 lag 1;takes:" + law + ";"), 4);
+            due("3 long laws, again and again", x.waiting(0, 3), 301);
+        }
     }
 
     // 3, 4
@@ -147,6 +155,13 @@ public final class PromiseTest {
         faulty("  ", 2, 2);
         faulty("Road", 1, 0);
         faulty("roads", 2, 0);
+        faulty("z", 2, 0);
+        faulty("a", 2, 0);
+        faulty("{", 1, 0);
+        faulty("`", 1, 0);
+        faulty("/", 1, 0);
+        faulty("9", 2, 0);
+        faulty("0000", 1, 0);
         faulty("road\tperiod", 1, 4);
         faulty("road period 1000 mud", 1, 12);
         faulty("road period 100 mud", 3, 12);
@@ -535,6 +550,20 @@ public final class PromiseTest {
         x = on("road period 1 mud 0;" + C + "wait 0 0 takes 1 lag 1;");
         x.hold(0, 1);
         due("19 the same for ever", x.calm(), -1);
+        // 8 more each round with mud 9, 1 less with mud 0
+        x = on("road period 5 mud 9;" + C + "wait 0 0 takes 4 lag 1;");
+        x.rounds(99);
+        x.rounds(24);
+        x.hold(0, 6);
+        x.round(0);
+        due("19 long", x.coach(0, 2), 998);
+        x.mud(0);
+        due("19 behind 999", x.calm(), 999);
+        x.undo(3);
+        x.hold(0, 7);
+        x.round(0);
+        x.mud(0);
+        due("19 not behind 999", x.calm(), -1);
     }
 
     // 20, 21, 22, 23, 25, 26
@@ -560,6 +589,24 @@ public final class PromiseTest {
         due("23 by the mud", x.period(), 6);
         due("25 by the mud", x.room(2), -1000002);
         due("25 by the mud", x.room(0), 0);
+        x = on("road period 5 mud 0;" + C + C + "wait 0 1 takes 4 lag 0;wait 1 0 takes 5 lag 2;wait 1 1 takes 4 lag 1;");
+        due("21 of 9 by 2 and 4 by 1", x.slow(), 3);
+        due("26 of 9 by 2 and 4 by 1", x.leave(), 0);
+        due("27 of 9 by 2 and 4 by 1", x.leaves(4, 1), 1);
+        x.mud(3);
+        due("23 of 15 by 2 and 7 by 1", x.period(), 8);
+        due("27 of 15 by 2 and 7 by 1", x.leaves(7, 1), 1);
+        x = on("road period 5 mud 0;" + C + C + "wait 0 0 takes 5 lag 1;wait 1 1 takes 4 lag 1;takes:time+to*mud;");
+        x.mud(2);
+        due("26 by the mud and a law", x.leave(), 1);
+        x.mud(1);
+        due("21 by the mud and a law", x.slow(), 3);
+        x.mud(0);
+        due("25 by the mud and a law", x.room(1), 1);
+        x.mud(3);
+        due("27 by the mud and a law", x.leaves(5, 1), 2);
+        x.mud(0);
+        due("26 by the mud and a law", x.leave(), 0);
         x = on("road period 5 mud 0;" + C + C + "wait 0 1 takes 4 lag 0;wait 1 0 takes 5 lag 2;");
         due("20 above", x.slowest(0), 9);
         due("20 below", x.slowest(1), 2);
@@ -673,6 +720,11 @@ public final class PromiseTest {
         due("29 alone", x.leeway(0), 99);
         x = on("road period 9 mud 0;" + C + C + "wait 0 1 takes 0 lag 0;waits:late<40 or late>60;");
         due("29 the greatest, whatever is between", x.leeway(0), 60);
+        String slowly = "road period 5 mud 0;" + C + C + "wait 0 0 takes 6 lag 1;wait 0 1 takes 0 lag 0;waits:to=0 or late>";
+        due("29 in the 99th round", on(slowly + "98;").leeway(0), -1);
+        due("29 in the 99th round", on(slowly + "99;").leeway(0), 0);
+        due("28 in the 99th round", on(slowly + "99;").spread(0, 0, 3), 1);
+        due("28 in the 99th round", on(slowly + "98;").spread(0, 0, 3), 3);
     }
 
     // 30, 31, 32
@@ -765,6 +817,17 @@ public final class PromiseTest {
         put(x, 1, 2, 7);
         due("33 held", x.muds(1, 1), 4);
         due("33 the mud stays", x.count(3), 3);
+        x = on("road period 1 mud 0;" + C + C + C + "wait 0 0 takes 0 lag 1;wait 1 1 takes 0 lag 1;wait 2 2 takes 0 lag 1;"
+            + "takes:if to=0 then if mud=2 then 5 else 4 end else if to=1 then mud+2 else if mud<3 then 7 else 8 end end end;");
+        put(x, 0, 1, 6);
+        due("33 muds 0 to 2", x.muds(0, 2), 7);
+        due("34 by coach 0 the muds 0 and 1 are alike, by coach 1 none", x.look(0, 2), 1);
+        put(x, 0, 1, 3);
+        due("33 all but 2", x.muds(0, 0), 1023 - 4);
+        due("34 by coach 1", x.look(0, 0), 1);
+        put(x, 0, 1, 4);
+        due("33 mud 2 alone", x.muds(0, 0), 4);
+        due("34 all are alike: the first", x.look(0, 0), 0);
     }
 
     // 35, 36
