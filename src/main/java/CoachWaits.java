@@ -795,7 +795,13 @@ public final class CoachWaits {
                     next++;
                 }
             } else if (isDigit(first)) {
-                stepNumber();
+                value = 0;
+                while (next < end && isDigit(at(next))) {
+                    // A number too long is no TOKEN: its value is never asked for.
+                    value = next - start < 3 ? value * 10 + at(next) - '0' : value;
+                    next++;
+                }
+                kind = next - start > 3 ? BAD : NUMBER;
             } else if (SIGNS.indexOf((char) first) >= 0) {
                 kind = SIGN;
                 value = first;
@@ -803,16 +809,6 @@ public final class CoachWaits {
             } else {
                 kind = BAD;
             }
-        }
-
-        private void stepNumber() {
-            value = 0;
-            while (next < end && isDigit(at(next))) {
-                // A number too long is no TOKEN: its value is never asked for.
-                value = next - start < 3 ? value * 10 + at(next) - '0' : value;
-                next++;
-            }
-            kind = next - start > 3 ? BAD : NUMBER;
         }
 
         /** The byte at a place, -1 where the text has none. */
@@ -1115,7 +1111,7 @@ public final class CoachWaits {
                     choice(depth + 1);
                 }
             } else {
-                name();
+                takeName(nameSlot());
             }
         }
 
@@ -1142,8 +1138,7 @@ public final class CoachWaits {
             into.aimHere(over);
         }
 
-        private void name() {
-            int slot = nameSlot();
+        private void takeName(int slot) {
             if (slot == NONE) {
                 refuse(WRONG_PLACE);
                 return;
@@ -1152,6 +1147,7 @@ public final class CoachWaits {
             tokens.step();
         }
 
+        /** Which name of this law the TOKEN is, NONE if it is none. */
         private int nameSlot() {
             if (tokens.isWord("from")) {
                 return Law.FROM;
@@ -1539,6 +1535,10 @@ public final class CoachWaits {
 
         int timeOf(int w, int mud) {
             reckon(mud);
+            return timeReckoned(w);
+        }
+
+        int timeReckoned(int w) {
             return w >= 0 && w < WAITS ? time[w] : 0;
         }
 
@@ -1557,7 +1557,8 @@ public final class CoachWaits {
             return bits;
         }
 
-        private void reckon(int mud) {
+        /** TIMES, and how far FROM comes in behind TO's planned time, by a MUD. */
+        void reckon(int mud) {
             if (mud == mudReckoned) {
                 return;
             }
@@ -1697,9 +1698,10 @@ public final class CoachWaits {
         int timesOf(int ring) {
             int waits = ringAt(ring);
             int sum = 0;
+            going.reckon(now.mudNow);
             for (int w = 0; w < road.waits; w++) {
                 if ((waits >> w & 1) != 0) {
-                    sum += going.timeOf(w, now.mudNow);
+                    sum += going.timeReckoned(w);
                 }
             }
             return sum;
