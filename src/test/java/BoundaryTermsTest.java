@@ -918,6 +918,22 @@ public final class BoundaryTermsTest extends Asking {
         due("99 less 98, five times", x.hour(0, 98), 5);
     }
 
+    // Terms (promises 20, 23, 24, 25): "with which, all WAITS kept, nobody HELD, nobody would ever be LATE"
+    static void keepingWhateverTheLawWaits() {
+        String two = "road period 5 mud 0;" + C + C + "wait 0 1 takes 4 lag 0;wait 1 0 takes 2 lag 1;";
+        CoachWaits x = on(two + "waits:1=2;");
+        x.hold(0, 9);
+        x.round(0);
+        x.hold(1, 9);
+        due("a law that never holds", x.hour(1, 6), 4);
+        due("just kept", x.hour(0, 6), 0);
+        due("not kept", x.hour(0, 5), -1);
+        due("the least PERIOD", x.period(), 6);
+        due("the SLOWEST", x.slowest(0), 6);
+        due("ROOM", x.room(0), -1000001);
+        due("but nobody is LATE for it", x.forWhich(0, 1), -1);
+    }
+
     // Terms (promise 25): "ROOM of a WAIT: how much longer it may take (whole numbers), so that no RING through it has a PACE above the PERIOD."
     static void roomToTheLast() {
         String two = C + C + "wait 0 1 takes 4 lag 0;wait 1 0 takes 5 lag 2;";
