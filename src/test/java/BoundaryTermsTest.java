@@ -527,6 +527,29 @@ public final class BoundaryTermsTest extends Asking {
         due("never", on(road + "waits:0=1;").forWhich(0, 1), -1);
     }
 
+    // Terms (promises 7, 17): "In waits late: how LATE that WAIT alone would make it; patience: TO's."
+    static void theLawByLatenessFarApart() {
+        // COACH 0 is later by 64 more in each ROUND; 1 waits for it as long as the law holds, whatever was asked ahead.
+        String road = "road period 1 mud 0;" + C + C + "wait 0 0 takes 65 lag 1;wait 0 1 takes 0 lag 0;takes:time;waits:to=0 or ";
+        int[] edges = {64, 65, 128, 129, 192, 193, 320, 640, 641};
+        for (int edge : edges) {
+            CoachWaits below = on(road + "late<" + edge + ";");
+            CoachWaits above = on(road + "late>" + edge + ";");
+            for (int i = 0; i < 100; i++) {
+                lateByLaw(below, 1 + i / 10, edge, true);
+                lateByLaw(below, 1 + i % 10, edge, true);
+                lateByLaw(above, 1 + i / 10, edge, false);
+                lateByLaw(above, 1 + i % 10, edge, false);
+            }
+        }
+    }
+
+    private static void lateByLaw(CoachWaits x, int k, int edge, boolean below) {
+        int late = 64 * k;
+        boolean kept = below ? late < edge : late > edge;
+        due(late + (below ? " below " : " above ") + edge, x.late(1, k), kept ? late : 0);
+    }
+
     // Terms (promise 9): "and it isn't left OUT in that ROUND."
     static void leftOutInThatRoundAlone() {
         CoachWaits x = on(GROWS);
