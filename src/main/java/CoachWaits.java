@@ -1380,7 +1380,11 @@ public final class CoachWaits {
             if (op != MULTIPLY) {
                 reckoned = op == ADD ? left + right : left - right;
             }
-            return (int) Math.max(-BOUND, Math.min(BOUND, reckoned));
+            // Plain comparisons: calls stand eight deep here already.
+            if (reckoned > BOUND) {
+                return BOUND;
+            }
+            return reckoned < -BOUND ? -BOUND : (int) reckoned;
         }
 
         private void push(int n) {
@@ -1677,7 +1681,7 @@ public final class CoachWaits {
                     int there = road.toOf(w);
                     if (there == first) {
                         add(waits | 1 << w);
-                    } else if (there > first && (marked >> there & 1) == 0) {
+                    } else if (there > first && (marked >> there & 1) == 0 && Integer.bitCount(waits) < COACHES) {
                         follow(first, there, marked | 1 << there, waits | 1 << w);
                     }
                 }
